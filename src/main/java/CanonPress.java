@@ -292,11 +292,11 @@ public final class CanonPress {
         }
 
         boolean pass(int wanted) {
-            if (here() != wanted || wanted == NONE) {
-                return false;
+            boolean there = at >= 0 && at < length && (bytes[at] & 255) == wanted;
+            if (there) {
+                at++;
             }
-            at++;
-            return true;
+            return there;
         }
 
         boolean passWord(String word) {
@@ -461,7 +461,9 @@ public final class CanonPress {
                 limbs[i] = (int) (left / divisor);
                 left %= divisor;
             }
-            dropZeroLimb();
+            if (count > 0 && limbs[count - 1] == 0) {
+                count--;
+            }
             return (int) left;
         }
 
@@ -521,7 +523,7 @@ public final class CanonPress {
             dropZeroLimb();
         }
 
-        /** One step of any of these makes at most the highest limb 0. */
+        /** A shift, as a division, makes at most the highest limb 0. */
         private void dropZeroLimb() {
             if (count > 0 && limbs[count - 1] == 0) {
                 count--;
@@ -1032,11 +1034,7 @@ public final class CanonPress {
             return there ? characters[textAt[i] + which] : NONE;
         }
 
-        /** Below 0, 0 or above as the NAME at i stands ahead of, is, or stands behind another's at j. */
-        int compareNames(int i, Tree other, int j) {
-            return compareWithName(nameAt[i], nameLength[i], other, j);
-        }
-
+        /** Below 0, 0 or above as these CHARACTERS stand ahead of, are, or stand behind a NAME at j. */
         int compareWithName(int start, int length, Tree other, int j) {
             int its = other.nameLength[j];
             int both = Math.min(length, its);
@@ -1048,6 +1046,10 @@ public final class CanonPress {
                 }
             }
             return Integer.compare(length, its);
+        }
+
+        int compareNames(int i, Tree other, int j) {
+            return compareWithName(nameAt[i], nameLength[i], other, j);
         }
 
         /** UTF-16 puts CHARACTERS from 65536 on between those below 55296 and the others. */
@@ -1068,11 +1070,16 @@ public final class CanonPress {
                 if (!isAlikeAlone(i + k, other, j + k)) {
                     return false;
                 }
-                if (k > 0 && isNamed(i + k) && compareNames(i + k, other, j + k) != 0) {
+                if (k > 0 && isNamed(i + k) && !hasSameName(i + k, other, j + k)) {
                     return false;
                 }
             }
             return true;
+        }
+
+        private boolean hasSameName(int i, Tree other, int j) {
+            return nameLength[i] == other.nameLength[j]
+                    && hasSameCharacters(nameAt[i], nameLength[i], other, other.nameAt[j]);
         }
 
         private boolean isAlikeAlone(int i, Tree other, int j) {
@@ -1080,15 +1087,15 @@ public final class CanonPress {
                 return false;
             }
             if (kind[i] == STRING) {
-                return isAlikeText(i, other, j);
+                return hasSameCharacters(textAt[i], many[i], other, other.textAt[j]);
             }
             boolean zeros = ((number[i] | other.number[j]) & ~SIGN) == 0;
             return zeros || number[i] == other.number[j];
         }
 
-        private boolean isAlikeText(int i, Tree other, int j) {
-            for (int k = 0; k < many[i]; k++) {
-                if (characters[textAt[i] + k] != other.characters[other.textAt[j] + k]) {
+        private boolean hasSameCharacters(int start, int length, Tree other, int otherStart) {
+            for (int k = 0; k < length; k++) {
+                if (characters[start + k] != other.characters[otherStart + k]) {
                     return false;
                 }
             }
@@ -1547,7 +1554,9 @@ public final class CanonPress {
                 out.put(SHORT_ESCAPES.charAt(which));
                 return;
             }
-            out.putWord("u00");
+            out.put('u');
+            out.put('0');
+            out.put('0');
             out.put(HEXADECIMAL.charAt(c >> 4 & 15));
             out.put(HEXADECIMAL.charAt(c & 15));
         }

@@ -34,6 +34,7 @@ public final class CanonPress {
     private static final int LEAST_TWOS = -1074;
     private static final int HIGHEST_BIT = 1023;
 
+    private static final int BACKSLASH = 92;
     private static final int BILLION_DIGITS = 9;
     private static final int[] TENS = {
         1, 10, 100, 1000, 10000, 100000, 1000000, 10000000, 100000000, 1000000000
@@ -1120,7 +1121,6 @@ public final class CanonPress {
         private static final int TOO_DEEP = 4;
         private static final int TOO_MANY = 5;
 
-        private static final int BACKSLASH = 92;
         private static final String SHORT_ESCAPES = "\"\\/bfnrt";
         private static final int[] SHORT_ESCAPED = {'"', BACKSLASH, '/', 8, 12, 10, 13, 9};
 
@@ -1383,11 +1383,10 @@ public final class CanonPress {
                 return readShortEscape(text.here());
             }
             int unit = readUnit();
-            boolean second = unit >= 0xDC00 && unit <= 0xDFFF;
             if (unit < 0xD800 || unit > 0xDFFF) {
                 return unit;
             }
-            if (second) {
+            if (unit >= 0xDC00) {
                 text.at--;
                 return NONE;
             }
@@ -1465,7 +1464,6 @@ public final class CanonPress {
 
     /** Writes the CANONICAL FORM. */
     private static final class Former {
-        private static final int BACKSLASH = 92;
         private static final String SHORT_ESCAPED = "\b\t\n\f\r";
         private static final String SHORT_ESCAPES = "btnfr";
         private static final String HEXADECIMAL = "0123456789abcdef";

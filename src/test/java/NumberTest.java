@@ -253,6 +253,14 @@ public final class NumberTest {
         rounds(1000, 1, "1e+3");
         rounds(1250, 2, "1.2e+3");
         rounds(1350, 2, "1.4e+3");
+        rounds(251, 1, "3e+2");
+        rounds(250, 1, "2e+2");
+        rounds(4501, 1, "5e+3");
+        rounds(0.1, 55, "1.000000000000000055511151231257827021181583404541015625e-1");
+        rounds(1.5, 2, "1.5e+0");
+        rounds(-1.25, 3, "-1.25e+0");
+        rounds(7, 1, "7e+0");
+        rounds(0.0, 1, "0e+0");
         rounds(0.5, 800, "5." + "0".repeat(799) + "e-1");
         for (int d : new int[] {1, 2, 16, 17, 50, 308, 309, 310, 750, 766, 767, 768, 799, 800}) {
             checkRounded(Double.MIN_VALUE, d);

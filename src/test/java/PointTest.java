@@ -67,13 +67,26 @@ public final class PointTest {
         points("/2", 9);
         points("/9", 16);
         points("/10", 17);
-        for (String none : new String[] {"/11", "/00", "/01", "/-", "/-1", "/", "/1e0", "/ 1", "/1 ", "/+1",
+        for (String none : new String[] {"/0/2", "/0/1/1", "/0/1/2", "/1/2", "/1/1/1", "/11", "/00", "/01", "/-", "/-1", "/", "/1e0", "/ 1", "/1 ", "/+1",
             "/2147483648", "/4294967296", "/18446744073709551616", "/99999999999999999999999", "/x", "/0x1",
             "/\u0661", "/2/0", "/2/", "/10/0", "/~0", "/~1"}) {
             points(none, NONE);
         }
         points("/" + "1".repeat(1999), NONE);
         points("/".repeat(2000), NONE);
+        bench.put(0, "[" + "0,".repeat(498) + "0]");
+        points("/498", 499);
+        points("/499", NONE);
+        for (String none : new String[] {"/x", "/:", "/;", "/1:", "/ ", "/1 ", "/-1", "/+1", "/1-", "/3x", "/A", "/\u00e9",
+            "/\u0130", "/0000", "/0498", "/1e1", "/1.0"}) {
+            points(none, NONE);
+        }
+        bench.put(0, "{\"a\":{\"b\":1},\"c\":2,\"d\":{\"c\":3}}");
+        points("/c", 3);
+        points("/a/c", NONE);
+        points("/a/d", NONE);
+        points("/d/c", 5);
+        points("/b", NONE);
         bench.put(0, "7");
         points("", 0);
         points("/", NONE);

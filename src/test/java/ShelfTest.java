@@ -128,6 +128,13 @@ public final class ShelfTest {
         Bench.due("bytes of UTF-8 count: 3999", press.merge(2, 3, 5), 4);
         bench.put(3, "{\"\u20ac\":\"" + "\ud83d\ude00".repeat(49) + "\"}");
         Bench.due("bytes of UTF-8 count: 4001", press.merge(2, 3, 5), NONE);
+        countsBytes("\u007f", 1);
+        countsBytes("\u0080", 2);
+        countsBytes("\u07ff", 2);
+        countsBytes("\u0800", 3);
+        countsBytes("\uffff", 3);
+        countsBytes("\ud800\udc00", 4);
+        countsBytes("\udbff\udfff", 4);
         Bench.due("form", press.form(4, 0), 2 + 3 * 5 + 2 + 4000);
         bench.put(6, "{\"d\":1}");
         Bench.due("no byte more", press.merge(4, 6, 4), NONE);
@@ -141,6 +148,19 @@ public final class ShelfTest {
         Bench.due("merge of many names", press.merge(0, 1, 2), 401);
         Bench.due("order", press.character(2, 201, 0, 0), 'n');
         Bench.due("order", press.character(2, 200, 0, 0), 'm');
+    }
+
+    /** This character, as a name and in a string, fills a shelf with what else takes 4000 - 2 of its bytes. */
+    private static void countsBytes(String character, int bytes) {
+        for (int over = 0; over < 2; over++) {
+            Bench bench = new Bench();
+            bench.put(0, "{\"a\":\"" + "x".repeat(1900) + "\"}");
+            bench.put(1, "{\"b\":\"" + "y".repeat(1900) + "\"}");
+            bench.press.merge(0, 1, 0);
+            int left = 4000 - 3802 - 2 * bytes + over;
+            bench.put(2, "{\"" + character + "\":\"" + character + "z".repeat(left) + "\"}");
+            Bench.due("bytes of " + character, bench.press.merge(0, 2, 3), over == 0 ? 4 : NONE);
+        }
     }
 
     private static void patches(String from, String into, String due) {
@@ -204,6 +224,16 @@ public final class ShelfTest {
         patches("{\"a\":{\"b\":null}}", "{\"a\":{\"b\":null,\"c\":null}}", none);
         patches("{\"a\":[null]}", "{\"a\":[1],\"b\":null}", none);
         patches("{\"x\":1}", "{\"a\":[{\"b\":null}],\"z\":null}", none);
+        for (int ahead = 0; ahead < 6; ahead++) {
+            StringBuilder parts = new StringBuilder();
+            for (int i = 0; i < ahead; i++) {
+                parts.append("\"").append(i).append("\":[null,1],");
+            }
+            patches("7", "{" + parts + "\"n\":null}", none);
+            patches("{}", "{\"a\":{" + parts + "\"n\":null}}", none);
+            patches("{}", "{\"a\":{" + parts.toString().replace("[null,1]", "1") + "\"n\":null}}", none);
+            patches("{}", "{\"a\":{" + parts.toString().replace("[null,1]", "{}") + "\"n\":null}}", none);
+        }
     }
 
     private static void refusesPatches() {

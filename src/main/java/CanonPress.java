@@ -797,7 +797,9 @@ public final class CanonPress {
                 start++;
             }
             count = DIGITS - start;
-            System.arraycopy(digits, start, digits, 0, count);
+            for (int i = 0; i < count; i++) {
+                digits[i] = digits[start + i];
+            }
         }
 
         private void putPlain(Out out) {

@@ -5,6 +5,7 @@ final class Bench {
     final CanonPress press = new CanonPress();
     private static int wrong = 0;
     private static int asked = 0;
+    private static String topic = "";
 
     static void due(String call, long got, long want) {
         asked++;
@@ -30,8 +31,17 @@ final class Bench {
     private static void tell(String line) {
         wrong++;
         if (wrong <= 50) {
-            System.out.println(line.length() > 1000 ? line.substring(0, 1000) + " .." : line);
+            System.out.println(topic + (line.length() > 1000 ? line.substring(0, 1000) + " .." : line));
         }
+    }
+
+    /** Told ahead of every wrong answer from here on. */
+    static void speakOf(String newTopic) {
+        topic = newTopic.isEmpty() ? "" : "<" + newTopic + "> ";
+    }
+
+    static int asked() {
+        return asked;
     }
 
     /** Every test's main ends here. */

@@ -6,6 +6,7 @@ final class Bench {
     private static int wrong = 0;
     private static int asked = 0;
     private static String topic = "";
+    private static int toldOfTopic = 0;
 
     static void due(String call, long got, long want) {
         asked++;
@@ -28,9 +29,11 @@ final class Bench {
         }
     }
 
+    /** Each topic has its say, however much is wrong ahead of it. */
     private static void tell(String line) {
         wrong++;
-        if (wrong <= 50) {
+        toldOfTopic++;
+        if (toldOfTopic <= (topic.isEmpty() ? 50 : 3)) {
             System.out.println(topic + (line.length() > 1000 ? line.substring(0, 1000) + " .." : line));
         }
     }
@@ -38,6 +41,7 @@ final class Bench {
     /** Told ahead of every wrong answer from here on. */
     static void speakOf(String newTopic) {
         topic = newTopic.isEmpty() ? "" : "<" + newTopic + "> ";
+        toldOfTopic = 0;
     }
 
     static int asked() {

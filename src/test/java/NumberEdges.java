@@ -124,9 +124,21 @@ final class NumberEdges {
         reads(half.replace("5e", "4" + "9".repeat(1200) + "e"), 0);
         reads(more(halves(3), "1"), 2);
         reads(halves(3).replace("5e", "49e"), 1);
+        for (int digits = 1; digits <= 60; digits++) {
+            String whole = "98765432109876543210".repeat(3).substring(0, digits);
+            reads(whole, new BigInteger(whole).doubleValue());
+            reads("0.000" + whole, new BigDecimal("0.000" + whole).doubleValue());
+        }
         reads("2.2250738585072011e-308", 0x000FFFFFFFFFFFFFL);
         reads("2.2250738585072014e-308", 0x0010000000000000L);
         reads("1.7976931348623157e308", LARGEST);
+        // A unit of the last bit, half of it, and one more or less, wherever that half lies.
+        for (int top = 54; top < 1024; top += 3) {
+            BigInteger number = BigInteger.TWO.pow(top).add(BigInteger.TWO.pow(top - 53));
+            long lesser = (long) (top + 1023) << 52;
+            reads(number.add(BigInteger.ONE).toString(), lesser + 1);
+            reads(number.subtract(BigInteger.ONE).toString(), lesser);
+        }
         reads("1" + "0".repeat(1990) + "e-1990", 1.0);
         reads("0." + "0".repeat(1990) + "1e1991", 1.0);
         reads("0." + "0".repeat(1990) + "4e1667", Double.MIN_VALUE);
@@ -144,6 +156,12 @@ final class NumberEdges {
         reads("9007199254740993" + "." + "0".repeat(1983), 0x4340000000000000L);
         reads("9007199254740993" + "0".repeat(1900) + "e-1900", 0x4340000000000000L);
         reads("9007199254740995" + "0".repeat(1900) + "e-1900", 0x4340000000000002L);
+        for (int top = 53; top < 1024; top += 3) {
+            BigInteger half = BigInteger.TWO.pow(top - 53);
+            long lesser = (long) (top + 1023) << 52;
+            reads(BigInteger.TWO.pow(top).add(half).toString(), lesser);
+            reads(BigInteger.TWO.pow(top).add(half.multiply(BigInteger.valueOf(3))).toString(), lesser + 2);
+        }
         reads("1e23", 0x44B52D02C7E14AF6L);
         reads(halves(1), 0);
         reads(halves(3), 2);
@@ -156,6 +174,11 @@ final class NumberEdges {
         reads(halves(0x1FFFFFFFFFFFFDL), 0x000FFFFFFFFFFFFEL);
         reads(new BigDecimal("2").subtract(new BigDecimal(Math.scalb(1.0, -53))).toPlainString(), 2.0);
         reads(new BigDecimal("1").add(new BigDecimal(Math.scalb(1.0, -53))).toPlainString(), 1.0);
+        // What a longer one had beyond its digits is not of the next one.
+        Bench bench = Edges.laid("9007199254740993" + "0".repeat(900) + "1e-901");
+        Bench.due("a little more", bench.press.numeral(), 0x4340000000000001L);
+        bench.lay("9007199254740993");
+        Bench.due("equally near", bench.press.numeral(), 0x4340000000000000L);
     }
 
     private static void readsEndlessFromItsEdgeOn() {
@@ -176,6 +199,10 @@ final class NumberEdges {
         reads("0." + "0".repeat(1500) + edge + "e1809", ENDLESS);
         reads("0." + "0".repeat(1500) + under + "e1809", LARGEST);
         reads("1e308", 1e308);
+        for (String beyond : new String[] {"1.8e308", "2e308", "3.5e308", "3.6e308", "7e308", "9.99e308", "9.99e309", "1e310"}) {
+            reads(beyond, ENDLESS);
+            reads("-" + beyond, SIGN | ENDLESS);
+        }
         for (String power : new String[] {"309", "310", "311", "999", "1024", "65536", "2147483647", "2147483648", "2147483649",
             "4294967295", "4294967296", "4294967297", "9223372036854775807", "9223372036854775808",
             "18446744073709551616", "18446744073709551617", "9".repeat(1990)}) {
@@ -237,6 +264,15 @@ final class NumberEdges {
         prints(0.1 + 0.2, "0.30000000000000004");
         prints(100.0, "100");
         prints(120.0, "120");
+        // Numerals that lie just at the lower and at the upper end of what is READ as these.
+        prints(0x447017F7DF96BE18L, "4.75e+21");
+        prints(0x447017F7DF96BE17L, "4.749999999999999e+21");
+        prints(0x4470069EFB362CDAL, "4.73e+21");
+        prints(0x4470069EFB362CDBL, "4.730000000000001e+21");
+        for (int power = -1074; power < 1024; power++) {
+            double number = Math.scalb(1.0, power);
+            prints(number, Model.printed(number));
+        }
         // The neighbour below a power of two is nearer than that above.
         prints(Math.scalb(1.0, -44), "5.684341886080802e-14");
         prints(Math.scalb(1.0, -1021), "4.450147717014403e-308");
@@ -318,6 +354,10 @@ final class NumberEdges {
         prints(1e-99, "1e-99");
         prints(1e-100, "1e-100");
         prints(1e308, "1e+308");
+        for (int power : new int[] {197, 198, 199, 200, 201, 297, 298, 299, 300, 301}) {
+            prints(Double.parseDouble("1e" + power), "1e+" + power);
+            prints(Double.parseDouble("1e-" + power), "1e-" + power);
+        }
     }
 
     private static void roundsToSoManyDigits() {
@@ -390,6 +430,11 @@ final class NumberEdges {
         rounds(0.15, 1, "1e-1");
         rounds(1.005, 3, "1.00e+0");
         rounds(0.1, 18, "1.00000000000000006e-1");
+        rounds(24999.0, 1, "2e+4");
+        rounds(25001.0, 1, "3e+4");
+        rounds(25010.0, 1, "3e+4");
+        rounds(25100.0, 1, "3e+4");
+        rounds(25100.0, 2, "2.5e+4");
         rounds(999999.0, 6, "9.99999e+5");
         rounds(999999.0, 5, "1.0000e+6");
     }
@@ -406,6 +451,10 @@ final class NumberEdges {
         rounds(99.5, 2, "1.0e+2");
         rounds(98.5, 2, "9.8e+1");
         rounds(995.0, 2, "1.0e+3");
+        rounds(25000.0, 1, "2e+4");
+        rounds(35000.0, 1, "4e+4");
+        rounds(9950000.0, 2, "1.0e+7");
+        rounds(2.5e22, 1, "2e+22");
         rounds(-9.5, 1, "-1e+1");
         rounds(-8.5, 1, "-8e+0");
         rounds(1.25, 2, "1.2e+0");

@@ -201,6 +201,10 @@ final class ShelfEdges {
 
     private static void mergesAllElse() {
         Edges.says("All else stays.");
+        merges("{'a':{'x':1},'b':{'y':2},'c':3}", "{'a':{'z':4}}", "{'a':{'x':1,'z':4},'b':{'y':2},'c':3}");
+        merges("{'a':{'x':1},'b':{'y':2},'c':3}", "{'b':{'z':4}}", "{'a':{'x':1},'b':{'y':2,'z':4},'c':3}");
+        merges("{'m':{'x':1}}", "{'m':{'y':2},'n':{'z':3},'o':4}", "{'m':{'x':1,'y':2},'n':{'z':3},'o':4}");
+        merges("{'a':{'b':{'c':1},'d':2},'e':3}", "{'a':{'b':{'f':4}}}", "{'a':{'b':{'c':1,'f':4},'d':2},'e':3}");
         merges("{'a':null,'b':-0,'c':[null],'d':{'e':null}}", "{}", "{'a':null,'b':0,'c':[null],'d':{'e':null}}");
         merges("{'a':null,'d':{'e':null,'f':1}}", "{'d':{'f':2}}", "{'a':null,'d':{'e':null,'f':2}}");
         Bench bench = Edges.shelved("{'a':-0}", "{}");
@@ -263,6 +267,11 @@ final class ShelfEdges {
         patches("{'a':{'n':null,'b':1}}", "{'a':{'n':null,'b':2}}", "{'a':{'b':2}}");
         patches("{}", "{'a':{'b':{}}}", "{'a':{'b':{}}}");
         patches("{'a':1}", "{'a':{}}", "{'a':{}}");
+        patches("{}", "{'a':{}}", "{'a':{}}");
+        patches("{'b':1}", "{'a':{'b':1},'b':1}", "{'a':{'b':1}}");
+        patches("{'a':{'x':1},'b':{'y':2}}", "{'a':{'x':2},'b':{'y':2}}", "{'a':{'x':2}}");
+        patches("{'a':{'x':1},'b':{'y':2},'c':3}", "{'a':{'w':1},'b':{'y':2},'c':4}",
+                "{'a':{'w':1,'x':null},'c':4}");
         patches("{'a':{}}", "{'a':1}", "{'a':1}");
         patches("{'a':{'b':1}}", "{'a':{'b':1,'c':{}}}", "{'a':{'c':{}}}");
         patches("{'a':[1,2]}", "{'a':[1,2,3]}", "{'a':[1,2,3]}");
@@ -433,6 +442,16 @@ final class ShelfEdges {
         }
         points("[]", "/0", NONE);
         String full = "[" + "0,".repeat(498) + "0]";
+        for (char c = 0; c < 256; c++) {
+            if ((c < '0' || c > '9') && c != '/' && c != '~') {
+                points(full, "/" + c, NONE);
+                points(full, "/1" + c, NONE);
+                points(full, "/" + c + "1", NONE);
+            }
+        }
+        for (String escaped : new String[] {"/~0", "/~1", "/1~0", "/1~1", "/~01", "/~11"}) {
+            points(full, escaped, NONE);
+        }
         points(full, "/498", 499);
         points(full, "/499", NONE);
         points(full, "/500", NONE);
@@ -501,10 +520,31 @@ final class ShelfEdges {
             }
             Bench.due("how many SHELVES", bench.press.about(2), to < 2 ? 2 : 3);
         }
+        mergesManyNames();
         Bench one = Edges.shelved("{'a':null,'b':{'c':null}}");
         Bench.due("with itself, onto itself", one.press.merge(0, 0, 0), 2);
         Bench.due("it came", one.formOf(0), Edges.q("{'b':{}}"));
         Bench.due("the least", Edges.shelved("{'a':1}", "7").press.merge(0, 1, 2), 1);
+    }
+
+    /** 280 NAMES of two letters, the first of them from this one on. */
+    private static String manyNames(char first) {
+        StringBuilder text = new StringBuilder("{");
+        for (int i = 0; i < 280; i++) {
+            text.append(i > 0 ? "," : "").append("'").append((char) (first + i / 26)).append((char) ('a' + i % 26));
+            text.append("':1");
+        }
+        return text + "}";
+    }
+
+    /** More NAMES than a SHELF can have VALUES, in both of them together. */
+    private static void mergesManyNames() {
+        Bench bench = Edges.shelved(manyNames('a'), manyNames('n'), "{}");
+        Bench.due("a PATCH of 280 nulls", bench.press.patch(1, 2, 3), 281);
+        Bench.due("nothing goes by it", bench.press.merge(0, 3, 4), 281);
+        Bench.due("all is there", bench.press.same(0, 0, 4, 0), 1);
+        Bench.due("all goes by it", bench.press.merge(1, 3, 4), 1);
+        Bench.due("it is too much", bench.press.merge(0, 1, 5), NONE);
     }
 
     private static void mergeRefuses() {
@@ -568,6 +608,9 @@ final class ShelfEdges {
         Edges.refuses("patch(5, 0, 0)", press -> press.patch(5, 0, 0), NO_PATCH);
         Edges.refuses("patch(5, 0, 5)", press -> press.patch(5, 0, 5), NO_PATCH);
         Edges.refuses("patch(2, 0, 7)", press -> press.patch(2, 0, 7), NO_PATCH);
+        Bench again = Edges.shelved("{}", "{'a':null}", "{'b':1}");
+        Bench.due("there is none", again.press.patch(0, 1, 3), NO_PATCH);
+        Bench.due("but of the next one there is", again.press.patch(0, 2, 3), 2);
         // It would be too much, too, but that comes behind it: the null ahead of what is too much, and behind it.
         for (String part : new String[] {"'a':null,'z':" + array(299), "'z':" + array(299) + ",'zz':null",
             "'z':" + array(299) + ",'zz':{'y':{'x':null}}"}) {

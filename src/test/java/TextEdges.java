@@ -548,9 +548,13 @@ final class TextEdges {
             Edges.faults(full + value, 5, 999);
             Edges.faults(full + " \n" + value, 5, 1001);
         }
-        bad(full + "x", 999);
-        bad(full + "]", 999);
-        bad(full + ",", 999);
+        for (int b = 0; b < 256; b++) {
+            byte[] text = java.util.Arrays.copyOf(Bench.utf8(full), 1000);
+            text[999] = (byte) b;
+            boolean blank = b == 9 || b == 10 || b == 13 || b == 32;
+            boolean begins = b > 32 && b < 128 && "ntf\"[{-0123456789".indexOf((char) b) >= 0;
+            Edges.faults(text, begins ? 5 : 1, blank ? 1000 : 999);
+        }
         bad("[" + "1,".repeat(498) + "1]1", 999);
         String named = "[" + "1,".repeat(497) + "{'a':1,'b'";
         Edges.faults(named + " : 1}]", 5, 1008);
@@ -607,6 +611,12 @@ final class TextEdges {
         Bench.due("document", bench.press.document(0), 3);
         bench.put(0, Edges.q("{'b':1,'a':2}"));
         Bench.due("form", bench.formOf(0), Edges.q("{'a':2,'b':1}"));
+        bench.lay("[".repeat(30) + "x");
+        Bench.due("document", bench.press.document(0), 1);
+        bench.put(0, "[".repeat(30) + "]".repeat(30));
+        bench.lay("[" + "1,".repeat(498) + "x");
+        Bench.due("document", bench.press.document(0), 1);
+        bench.put(0, "[" + "1,".repeat(498) + "1]");
     }
 
     private static void documentRefusesShelves() {

@@ -122,6 +122,13 @@ final class NumberEdges {
         reads(more(halves(1), "0".repeat(1200) + "1"), 1);
         String half = halves(1);
         reads(half.replace("5e", "4" + "9".repeat(1200) + "e"), 0);
+        // Half of the least, and by ever less beside it.
+        for (int finer = 1; finer < 40; finer++) {
+            BigDecimal part = BigDecimal.ONE.divide(new BigDecimal(BigInteger.TWO.pow(1075 + finer)));
+            BigDecimal least = new BigDecimal(halves(1));
+            reads(least.add(part).toString().replace("E", "e"), 1);
+            reads(least.subtract(part).toString().replace("E", "e"), 0);
+        }
         reads(more(halves(3), "1"), 2);
         reads(halves(3).replace("5e", "49e"), 1);
         for (int digits = 1; digits <= 60; digits++) {

@@ -138,6 +138,8 @@ final class ShelfEdges {
         bench.put(2, "9");
         press.part(3, 0, 5);
         press.merge(3, 0, 3);
+        bench.put(3, "[10]");
+        bench.put(2, "[11]");
         Bench.due("a copy of the whole is its own", bench.formOf(5), Edges.q("{'a':{'e':1},'c':{'d':null}}"));
         Bench.due("how many SHELVES", press.about(2), 6);
     }
@@ -540,10 +542,12 @@ final class ShelfEdges {
     /** More NAMES than a SHELF can have VALUES, in both of them together. */
     private static void mergesManyNames() {
         Bench bench = Edges.shelved(manyNames('a'), manyNames('n'), "{}");
-        Bench.due("a PATCH of 280 nulls", bench.press.patch(1, 2, 3), 281);
-        Bench.due("nothing goes by it", bench.press.merge(0, 3, 4), 281);
-        Bench.due("all is there", bench.press.same(0, 0, 4, 0), 1);
-        Bench.due("all goes by it", bench.press.merge(1, 3, 4), 1);
+        for (int which = 0; which < 2; which++) {
+            Bench.due("a PATCH of 280 nulls", bench.press.patch(which, 2, 3), 281);
+            Bench.due("nothing goes by it", bench.press.merge(1 - which, 3, 4), 281);
+            Bench.due("all is there", bench.press.same(1 - which, 0, 4, 0), 1);
+            Bench.due("all goes by it", bench.press.merge(which, 3, 4), 1);
+        }
         Bench.due("it is too much", bench.press.merge(0, 1, 5), NONE);
     }
 
